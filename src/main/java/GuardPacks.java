@@ -436,8 +436,8 @@ public final class GuardPacks {
      */
     private static final class Watch {
         private Runs near;
-        private int best;
         private Runs far;
+        private int best;
         private final long[] unseenFar = new long[RUNS_TOLD];
         private final Pairing pairing;
 

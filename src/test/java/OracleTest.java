@@ -27,6 +27,9 @@ public final class OracleTest {
         for (int i = 0; i < 1500; i++) {
             compareMore(i, 1 + next(5), 1 + next(4), next(6));
         }
+        for (int i = 0; i < 400; i++) {
+            compareMore(i, 5 + next(4), 3 + next(2), next(5));
+        }
         for (int i = 0; i < 1500; i++) {
             compareBox(i);
         }
@@ -168,7 +171,7 @@ public final class OracleTest {
         due(what + "more is wide", x.more() == -5 ? 1 : 0, fewer > 12 ? 1 : 0);
     }
 
-    /** A cover of runs as great as the cells in peace proves that there is no greater peace (Koenig). */
+    /** The greatest pairing of row runs with column runs, grown by plain recursion over all cells. */
     private static void comparePeace(String what, GuardPacks x) {
         int cells = w * h;
         int[] nearOf = new int[cells];
@@ -218,26 +221,32 @@ public final class OracleTest {
         for (int cell = 0; cell < w * h; cell++) {
             sight[cell] = (all >>> cell & 1) != 0 ? sightOf(cell) : 0;
         }
-        int least = 0;
-        while (!canWatch(all, watched, sight, least)) {
-            least++;
+        int widest = 0;
+        for (long each : sight) {
+            widest = Math.max(widest, Long.bitCount(each));
         }
-        due("more " + round, x.more(), least);
+        if (Math.min(x.runs(0), x.runs(1)) <= 12) {
+            int least = 0;
+            while (!canWatch(all, watched, sight, least, widest)) {
+                least++;
+            }
+            due("more " + round, x.more(), least);
+        }
         due("peace " + round, x.peace(), mostApart(all, sight, 0));
     }
 
     /** The first cell that is not seen has to be seen by one of the guards who come. */
-    private static boolean canWatch(long all, long watched, long[] sight, int come) {
+    private static boolean canWatch(long all, long watched, long[] sight, int come, int widest) {
         long unseen = all & ~watched;
         if (unseen == 0) {
             return true;
         }
-        if (come == 0) {
+        if (come * widest < Long.bitCount(unseen)) {
             return false;
         }
         long from = sight[Long.numberOfTrailingZeros(unseen)];
         for (int cell = 0; cell < sight.length; cell++) {
-            if ((from >>> cell & 1) != 0 && canWatch(all, watched | sight[cell], sight, come - 1)) {
+            if ((from >>> cell & 1) != 0 && canWatch(all, watched | sight[cell], sight, come - 1, widest)) {
                 return true;
             }
         }

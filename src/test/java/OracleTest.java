@@ -30,6 +30,13 @@ public final class OracleTest {
         for (int i = 0; i < 400; i++) {
             compareMore(i, 5 + next(4), 3 + next(2), next(5));
         }
+        int compared = 0;
+        for (int i = 0; i < 4000 && compared < 250; i++) {
+            if (compareMoreByRuns(i, 3 + next(6), 4 + next(5), next(10))) {
+                compared++;
+            }
+        }
+        due("halls of 8 to 12 runs", compared, 250);
         for (int i = 0; i < 1500; i++) {
             compareBox(i);
         }
@@ -251,6 +258,87 @@ public final class OracleTest {
             }
         }
         return false;
+    }
+
+    /**
+     * Halls too large for the search above. For each set of near runs that are to get a guard, the far runs are gone
+     * through one by one: the least guards for each set of near runs that have theirs by then.
+     */
+    private static boolean compareMoreByRuns(int round, int width, int height, int shutOfTen) {
+        GuardPacks x = makeHall(width, height, shutOfTen, next(12));
+        int direction = x.runs(0) <= x.runs(1) ? 0 : 1;
+        int nearRuns = x.runs(direction);
+        int farRuns = x.runs(1 - direction);
+        if (nearRuns < 8 || nearRuns > 12) {
+            return false;
+        }
+        boolean[][] cross = new boolean[farRuns][nearRuns];
+        int watchedNear = 0;
+        long watchedFar = 0;
+        for (int cell = 0; cell < w * h; cell++) {
+            int u = cell % w, v = cell / w;
+            if (open[v][u]) {
+                int near = x.run(u, v, direction);
+                int far = x.run(u, v, 1 - direction);
+                cross[far][near] = true;
+                watchedNear |= guarded[v][u] ? 1 << near : 0;
+                watchedFar |= guarded[v][u] ? 1L << far : 0;
+            }
+        }
+        int least = Integer.MAX_VALUE;
+        for (int wanted = 0; wanted < 1 << nearRuns; wanted++) {
+            if ((wanted & watchedNear) == 0) {
+                least = Math.min(least, leastFor(wanted, watchedNear, watchedFar, cross, nearRuns));
+            }
+        }
+        due("more of few runs " + round, x.more(), least);
+        return true;
+    }
+
+    private static final int[] oneRow = new int[1 << 12];
+    private static final int[] otherRow = new int[1 << 12];
+
+    private static int leastFor(int wanted, int watchedNear, long watchedFar, boolean[][] cross, int nearRuns) {
+        int[] least = oneRow;
+        int[] with = otherRow;
+        java.util.Arrays.fill(least, 1000);
+        least[0] = 0;
+        for (int run = 0; run < cross.length; run++) {
+            boolean needs = false;
+            for (int near = 0; near < nearRuns; near++) {
+                boolean nearIsWatched = ((wanted | watchedNear) >>> near & 1) != 0;
+                needs |= cross[run][near] && (watchedFar >>> run & 1) == 0 && !nearIsWatched;
+            }
+            for (int has = wanted;; has = has - 1 & wanted) {
+                // A guard in a cell whose near run needs none.
+                with[has] = least[has] + (needs ? 1 : 0);
+                if (has == 0) {
+                    break;
+                }
+            }
+            for (int near = 0; near < nearRuns; near++) {
+                if (cross[run][near] && (wanted >>> near & 1) != 0) {
+                    guardAt(near, wanted, least, with);
+                }
+            }
+            int[] used = least;
+            least = with;
+            with = used;
+        }
+        return least[wanted];
+    }
+
+    /** The first guard of a far run counts from what was before it, a further one from what the run has by now. */
+    private static void guardAt(int near, int wanted, int[] before, int[] with) {
+        for (int has = wanted;; has = has - 1 & wanted) {
+            if ((has >>> near & 1) != 0) {
+                int without = has & ~(1 << near);
+                with[has] = Math.min(with[has], 1 + Math.min(before[without], with[without]));
+            }
+            if (has == 0) {
+                return;
+            }
+        }
     }
 
     private static int mostApart(long free, long[] sight, int count) {

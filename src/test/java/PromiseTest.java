@@ -398,7 +398,8 @@ public final class PromiseTest {
         x.square(2);
         x.square(2);
         due("14 pack", x.pack(100), 1);
-        int[][] refused = {{0, 1}, {1, 0}, {13, 1}, {1, 13}, {-1, 5}, {5, -1}, {LOW, 1}, {1, LOW}, {HIGH, 1}, {1, HIGH}};
+        int[][] refused = {{0, 1}, {1, 0}, {13, 1}, {1, 13}, {-1, 5}, {5, -1}, {LOW, 1}, {1, LOW},
+            {HIGH, 1}, {1, HIGH}};
         for (int[] size : refused) {
             due("14 box(" + size[0] + ", " + size[1] + ")", x.box(size[0], size[1]), OUTSIDE);
         }

@@ -394,7 +394,7 @@ public final class GuardPacks {
             long fresh = farChosen;
             int size = 1;
             waiting[0] = start;
-            for (int head = 0; head < size; head++) {
+            for (int head = 0; head < size && head < CELLS; head++) {
                 int from = waiting[head];
                 for (int i = 0; i < near.length[from]; i++) {
                     int to = far.of[near.cellOf(from, i)];

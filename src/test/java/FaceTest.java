@@ -34,7 +34,13 @@ public final class FaceTest {
         Class<?> type = GuardPacks.class;
         hold("public and final", Modifier.isPublic(type.getModifiers()) && Modifier.isFinal(type.getModifiers()));
         Set<String> members = new TreeSet<>();
+        Set<String> faceNames = new TreeSet<>();
+        for (Method method : type.getMethods()) {
+            faceNames.add(method.getName());
+        }
         for (Method method : type.getDeclaredMethods()) {
+            hold(method + " has no name of the face",
+                    !Modifier.isPrivate(method.getModifiers()) || !faceNames.contains(method.getName()));
             if (!Modifier.isPrivate(method.getModifiers()) && !method.isSynthetic()) {
                 List<String> types = new ArrayList<>();
                 for (Class<?> each : method.getParameterTypes()) {
